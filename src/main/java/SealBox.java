@@ -11,7 +11,7 @@ public final class SealBox {
   private static final int IV_BYTES = 12;
   private static final int TAG_BYTES = 16;
   private static final int CALLS = 512;
-  // Each seal makes a text longer by a tag, so no text of an object's 512 calls is longer.
+  // Above the limit only a seal makes a tape longer, by a tag: 512 calls never come beyond this.
   private static final int LONGEST_TEXT = TAPE_LIMIT + CALLS * TAG_BYTES;
 
   private static final int NONE = -1;
@@ -375,9 +375,8 @@ public final class SealBox {
     }
 
     void finishTag(int besideBytes, int textBytes) {
-      long besideBits = 8L * besideBytes;
-      long textBits = 8L * textBytes;
-      hash.absorb((int) (besideBits >>> 32), (int) besideBits, (int) (textBits >>> 32), (int) textBits);
+      // No row comes near 2^28 bytes, so its bits need only the lower word of each length.
+      hash.absorb(0, 8 * besideBytes, 0, 8 * textBytes);
       tag[0] = (int) (hash.high >>> 32) ^ mask[0];
       tag[1] = (int) hash.high ^ mask[1];
       tag[2] = (int) (hash.low >>> 32) ^ mask[2];
@@ -571,7 +570,7 @@ public final class SealBox {
     }
   }
 
-  /** Poly1305 over whole blocks of 16 bytes; numbers are five limbs of 26 bits, the lowest first. */
+  /** Poly1305 over whole blocks of 16 bytes; a number is five limbs of 26 bits, lowest first. */
   static final class Poly1305 {
     private static final long LIMB = 0x3ffffff;
 

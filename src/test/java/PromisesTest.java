@@ -393,7 +393,8 @@ public final class PromisesTest {
       Check.due("seal above the limit", x.seal(), n);
       Check.due("back above the limit", x.back(n - 1, 1), n);
     }
-    Check.dueThrow("feed above the limit", IllegalStateException.class, () -> x.feed(0, 0, 0, 0, 0));
+    Check.dueThrow("feed above the limit", IllegalStateException.class,
+        () -> x.feed(0, 0, 0, 0, 0));
     Check.due("end above the limit", x.end(65_540), 65_540);
     Check.due("beside above the limit", x.beside(), 65_540);
     Check.due("feed when it was taken", x.feed(0, 0, 0, 0, 0), 20);

@@ -56,8 +56,8 @@ public final class StandardsTest {
   /** RFC 8439, 2.8.2. */
   private static void chaChaVector() {
     StringBuilder text = new StringBuilder();
-    String words = "Ladies and Gentlemen of the class of '99: If I could offer you only one tip for the"
-        + " future, sunscreen would be it.";
+    String words = "Ladies and Gentlemen of the class of '99: If I could offer you only one tip for"
+        + " the future, sunscreen would be it.";
     for (char c : words.toCharArray()) {
       text.append(String.format("%02x", (int) c));
     }
@@ -95,27 +95,27 @@ public final class StandardsTest {
     return words;
   }
 
-  /** RFC 8439, A.3, vectors 7 to 11 and 1: carries that no key of a real record comes to. */
+  /** RFC 8439, A.3, vectors 1 and 5 to 11: carries that no key of a real record comes to. */
   private static void polyEdges() {
     String zeros = "00000000000000000000000000000000";
     String ones = "ffffffffffffffffffffffffffffffff";
     String one = "01000000000000000000000000000000";
     String two = "02000000000000000000000000000000";
     poly("A.3 1", zeros + zeros, zeros + zeros + zeros + zeros, zeros);
-    poly("A.3 7", two + zeros, ones, "03000000000000000000000000000000");
-    poly("A.3 8", two + ones, two, "03000000000000000000000000000000");
-    poly("A.3 9", one + zeros, ones + "f0ffffffffffffffffffffffffffffff"
+    poly("A.3 5", two + zeros, ones, "03000000000000000000000000000000");
+    poly("A.3 6", two + ones, two, "03000000000000000000000000000000");
+    poly("A.3 7", one + zeros, ones + "f0ffffffffffffffffffffffffffffff"
         + "11000000000000000000000000000000", "05000000000000000000000000000000");
-    poly("A.3 10", one + zeros, ones + "fbfefefefefefefefefefefefefefefe"
+    poly("A.3 8", one + zeros, ones + "fbfefefefefefefefefefefefefefefe"
         + "01010101010101010101010101010101", zeros);
-    poly("A.3 11", two + zeros, "fdffffffffffffffffffffffffffffff",
+    poly("A.3 9", two + zeros, "fdffffffffffffffffffffffffffffff",
         "faffffffffffffffffffffffffffffff");
-    String fourBlocks = "e33594d7505e43b900000000000000003394d7505e4379cd"
+    String threeBlocks = "e33594d7505e43b900000000000000003394d7505e4379cd"
         + "010000000000000000000000000000000000000000000000";
     String key = "01000000000000000400000000000000" + zeros;
-    poly("A.3 12", key, fourBlocks + "01000000000000000000000000000000",
+    poly("A.3 10", key, threeBlocks + "01000000000000000000000000000000",
         "14000000000000005500000000000000");
-    poly("A.3 13", key, fourBlocks, "13000000000000000000000000000000");
+    poly("A.3 11", key, threeBlocks, "13000000000000000000000000000000");
   }
 
   private static void againstLibrary() {
