@@ -50,14 +50,21 @@ final class Check {
     }
   }
 
-  /** Brings these bytes to the tape, which must be empty. */
+  /** Brings these bytes to the tape, which must be empty; just 65,536 find room too. */
   static void tape(SealBox x, byte[] bytes) {
-    byte[] padded = Arrays.copyOf(bytes, (bytes.length + 19) / 20 * 20);
-    for (int i = 0; i < padded.length; i += 20) {
-      x.feed(word(padded, i), word(padded, i + 4), word(padded, i + 8), word(padded, i + 12),
-          word(padded, i + 16));
+    int rest = bytes.length % 20;
+    if (rest > 0) {
+      feed(x, Arrays.copyOf(bytes, 20), 0);
+      x.end(rest);
     }
-    x.end(bytes.length);
+    for (int i = rest; i < bytes.length; i += 20) {
+      feed(x, bytes, i);
+    }
+  }
+
+  private static void feed(SealBox x, byte[] bytes, int at) {
+    x.feed(word(bytes, at), word(bytes, at + 4), word(bytes, at + 8), word(bytes, at + 12),
+        word(bytes, at + 16));
   }
 
   private static int word(byte[] bytes, int at) {
