@@ -32,6 +32,7 @@ public final class PromisesBoundaryTest {
     openNumberWraps();
     openWithNoneInUse();
     openOfWrongTag();
+    openOfTwiceWrongTag();
     openOfOtherBytes();
     openInOtherState();
     openOfTooFew();
@@ -43,6 +44,7 @@ public final class PromisesBoundaryTest {
     backOfEmptyBox();
     backAboveLimit();
     backAboveLimitTaken();
+    backAboveLimitAgain();
     backAboveLimitNotFed();
     boxValues();
     boxOfNoByte();
@@ -402,6 +404,21 @@ public final class PromisesBoundaryTest {
     }
   }
 
+  /** 9: the same where two changes might make up for each other. */
+  private static void openOfTwiceWrongTag() {
+    for (int cipher = 0; cipher < 3; cipher++) {
+      Standing s = Standing.inUse(cipher);
+      byte[] record = s.record(Standing.drawn(21));
+      for (int first = 0; first < 16; first++) {
+        for (int second = first + 1; second < 16; second++) {
+          byte[] once = Standing.changed(record, 21 + first, 0x80);
+          failsToOpen("bytes " + first + " and " + second + " of the tag changed", s,
+              Standing.changed(once, 21 + second, 0x80));
+        }
+      }
+    }
+  }
+
   /** 9: the tag is wrong for a text that was changed, cut off, made longer or moved. */
   private static void openOfOtherBytes() {
     for (int cipher = 0; cipher < 3; cipher++) {
@@ -599,6 +616,18 @@ public final class PromisesBoundaryTest {
       Standing right = s.withNumber(2).withBeside(NOTHING);
       right.iv = new byte[12];
       right.answers("open() above the limit", SealBox::open, 65_536, right.afterOpen(text));
+    }
+  }
+
+  /** 10: the same again and again, as often as 512 calls could. */
+  private static void backAboveLimitAgain() {
+    for (int cipher = 0; cipher < 3; cipher++) {
+      SealBox x = Standing.inUse(cipher).withTape(Standing.drawn(65_536)).made();
+      for (int n = 65_552; n <= 65_536 + 256 * 16; n += 16) {
+        Check.due("seal above the limit", x.seal(), n);
+        Check.due("back above the limit", x.back(-1, 0), n);
+      }
+      Check.dueThrow("feed above it", IllegalStateException.class, () -> x.feed(0, 0, 0, 0, 0));
     }
   }
 

@@ -1,7 +1,7 @@
 import java.util.Arrays;
 import java.util.NoSuchElementException;
 
-/** Each promise by itself: ordinary inputs, the edges that the document names, wrong inputs. */
+/** Each promise by itself: ordinary inputs, the nearest edges and wrong inputs. */
 public final class PromisesTest {
   private static final byte[] KEY_16 = new Check.Draw(16).bytes(16);
   private static final byte[] KEY_32 = new Check.Draw(32).bytes(32);
@@ -13,7 +13,6 @@ public final class PromisesTest {
   public static void main(String[] args) {
     newObject();
     feed();
-    feedToTheLimit();
     end();
     use();
     iv();
@@ -24,7 +23,6 @@ public final class PromisesTest {
     openThatFails();
     openTooShort();
     back();
-    backBeyondTheLimit();
     box();
     count();
     blocks();
@@ -72,27 +70,6 @@ public final class PromisesTest {
     Check.due("feed", x.feed(0, 1, 2, 3, 4), 40);
     dueTape("what was fed", x, Check.hex("01020304 05060708 80ff7f00 ffffffff 80000000"
         + "00000000 00000001 00000002 00000003 00000004"));
-  }
-
-  /** Takes more than 512 calls: the document leaves them free, the limit is kept all the same. */
-  private static void feedToTheLimit() {
-    SealBox x = Check.ready(1, KEY_32, IV, BESIDE);
-    for (int n = 20; n <= 65_520; n += 20) {
-      Check.due("feed to the limit", x.feed(n, 0, 0, 0, n), n);
-    }
-    Check.dueThrow("feed at 65520", IllegalStateException.class, () -> x.feed(1, 2, 3, 4, 5));
-    Check.due("tape after it", x.count(0), 65_520);
-    x.end(65_517);
-    Check.dueThrow("feed at 65517", IllegalStateException.class, () -> x.feed(1, 2, 3, 4, 5));
-    x.end(65_516);
-    Check.due("feed at 65516", x.feed(1, 2, 3, 4, 5), 65_536);
-    Check.dueThrow("feed at 65536", IllegalStateException.class, () -> x.feed(1, 2, 3, 4, 5));
-    Check.due("seal of the longest tape", x.seal(), 65_552);
-    x.number(0);
-    x.back(-1, 0);
-    Check.dueThrow("feed at 65552", IllegalStateException.class, () -> x.feed(1, 2, 3, 4, 5));
-    Check.due("open of a tape above the limit", x.open(), 65_536);
-    Check.due("its last byte", x.box(65_535), 5);
   }
 
   private static void end() {
@@ -381,23 +358,6 @@ public final class PromisesTest {
       Check.tape(y, sealed(1, IV, 6, BESIDE, record));
       y.open();
     }
-  }
-
-  /** Takes more than 512 calls, as feedToTheLimit. */
-  private static void backBeyondTheLimit() {
-    SealBox x = Check.ready(2, KEY_32, IV, BESIDE);
-    for (int n = 20; n <= 65_520; n += 20) {
-      x.feed(n, n, n, n, n);
-    }
-    for (int n = 65_536; n < 65_536 + 160; n += 16) {
-      Check.due("seal above the limit", x.seal(), n);
-      Check.due("back above the limit", x.back(n - 1, 1), n);
-    }
-    Check.dueThrow("feed above the limit", IllegalStateException.class,
-        () -> x.feed(0, 0, 0, 0, 0));
-    Check.due("end above the limit", x.end(65_540), 65_540);
-    Check.due("beside above the limit", x.beside(), 65_540);
-    Check.due("feed when it was taken", x.feed(0, 0, 0, 0, 0), 20);
   }
 
   private static void box() {
